@@ -394,10 +394,10 @@ public final class SacredHens {
     private int spoilingDay(int side) {
         int found = NONE;
         int least = worthOfPlan(side);
-        int clear = now.clearDays(side);
+        int used = planner.daysOfFirstPlan();
         for (int day = 0; day < now.days; day++) {
-            // To watch a day that is stopped already takes nothing away.
-            if (!holds(clear, day)) {
+            // A plan that leaves the day alone is worth as much as ever.
+            if (!holds(used, day)) {
                 continue;
             }
             int worth = worthOfPlans(now.billsOf(side), now.marked, EVERYONE, 1 << day);
@@ -1507,8 +1507,10 @@ public final class SacredHens {
         private final int[] most = new int[(MAX_DAYS + 1) * SETS];
         private final int[] ways = new int[(MAX_DAYS + 1) * SETS];
         private final int[] weight = new int[MAX_BILLS];
+        /** The bill that a bill is after, as a set. */
         private final int[] ahead = new int[MAX_BILLS];
-        private final int[] openDays = new int[MAX_BILLS];
+        /** The bills that nothing but others ahead of them keeps from passing on a day. */
+        private final int[] openOn = new int[MAX_DAYS];
         private int from;
         private int days;
         private int pause;
@@ -1529,17 +1531,27 @@ public final class SacredHens {
             from = camp.firstHungryDay();
             days = camp.days;
             pause = Math.max(1, camp.greed);
+            for (int day = 0; day < MAX_DAYS; day++) {
+                openOn[day] = 0;
+            }
             for (int bill = 0; bill < camp.bills; bill++) {
                 int after = camp.billAfter[bill];
                 ahead[bill] = after == NONE ? 0 : 1 << after;
-                int watched = camp.skyOf(augurs & camp.augursOf(1 - camp.billSide[bill]));
-                openDays[bill] = holds(billSet, bill) ? camp.allDays() & ~marked & ~watched & ~besides : 0;
-            }
-            for (int bill = camp.bills; bill < MAX_BILLS; bill++) {
-                openDays[bill] = 0;
+                if (holds(billSet, bill)) {
+                    int watched = camp.skyOf(augurs & camp.augursOf(1 - camp.billSide[bill]));
+                    openBill(bill, camp.allDays() & ~marked & ~watched & ~besides);
+                }
             }
             goBack(billSet);
             return most[from * SETS];
+        }
+
+        private void openBill(int bill, int onDays) {
+            for (int day = 0; day < MAX_DAYS; day++) {
+                if (holds(onDays, day)) {
+                    openOn[day] |= 1 << bill;
+                }
+            }
         }
 
         private void goBack(int billSet) {
@@ -1549,8 +1561,8 @@ public final class SacredHens {
             }
             for (int day = days - 1; day >= from; day--) {
                 for (int set = 0; set < SETS; set++) {
-                    // At most one bill a day passes, so that larger sets are never come to.
-                    if ((set & billSet) == set && Integer.bitCount(set) <= day - from) {
+                    // Each bill took a pause, so that larger sets are never come to.
+                    if ((set & billSet) == set && Integer.bitCount(set) * pause <= day - from) {
                         settle(day, set);
                     }
                 }
@@ -1559,11 +1571,12 @@ public final class SacredHens {
 
         private void settle(int day, int set) {
             int here = day * SETS + set;
-            int later = hungryAgain(day) * SETS;
+            int later = Math.min(days, day + pause) * SETS;
             int top = most[here + SETS];
             int count = ways[here + SETS];
-            for (int bill = 0; bill < MAX_BILLS; bill++) {
-                if (!canPass(bill, day, set)) {
+            int askable = openOn[day] & ~set;
+            for (int bill = 0; bill < MAX_BILLS && askable != 0; bill++) {
+                if ((askable >> bill & 1) == 0 || (ahead[bill] & ~set) != 0) {
                     continue;
                 }
                 int behind = later + (set | 1 << bill);
@@ -1580,16 +1593,18 @@ public final class SacredHens {
             ways[here] = count;
         }
 
-        private boolean canPass(int bill, int day, int set) {
-            return holds(openDays[bill], day) && !holds(set, bill) && (ahead[bill] & set) == ahead[bill];
-        }
-
-        private int hungryAgain(int day) {
-            return Math.min(days, day + pause);
-        }
-
         int howManyPlans() {
             return ways[from * SETS];
+        }
+
+        int daysOfFirstPlan() {
+            int used = 0;
+            for (int day = 0; day < days; day++) {
+                if (billInFirstPlan(day) != NONE) {
+                    used |= 1 << day;
+                }
+            }
+            return used;
         }
 
         int billInFirstPlan(int wanted) {
@@ -1615,9 +1630,11 @@ public final class SacredHens {
             if (most[here + SETS] == most[here]) {
                 return NONE;
             }
-            int later = hungryAgain(day) * SETS;
+            int later = Math.min(days, day + pause) * SETS;
+            int askable = openOn[day] & ~set;
             for (int bill = 0; bill < MAX_BILLS; bill++) {
-                if (canPass(bill, day, set) && weight[bill] + most[later + (set | 1 << bill)] == most[here]) {
+                boolean canPass = holds(askable, bill) && (ahead[bill] & ~set) == 0;
+                if (canPass && weight[bill] + most[later + (set | 1 << bill)] == most[here]) {
                     return bill;
                 }
             }

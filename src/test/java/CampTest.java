@@ -139,6 +139,8 @@ public final class CampTest {
         fault(HEAD + "mark 1", 1, h + 6);
         fault(HEAD + "marks 1;", 1, h);
         fault(HEAD + "mark1mark", 1, h + 5);
+        fault(HEAD + "markz 1;", 1, h);
+        fault(HEAD + "amark 1;", 1, h);
         fault(HEAD + "7;", 1, h);
         fault(HEAD + "augur from 1 to 2;", 1, h + 6);
         fault(HEAD + "bill of 0 worth 5 after;", 1, h + 23);
