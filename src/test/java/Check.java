@@ -15,6 +15,21 @@ final class Check {
         }
     }
 
+    /** Several calls that are due the same answer. */
+    void all(String calls, long want, long... got) {
+        for (int i = 0; i < got.length; i++) {
+            due(calls + ", number " + i, got[i], want);
+        }
+    }
+
+    /** What was seen ahead of calls that change nothing is seen behind them too. */
+    void same(String calls, String ahead, String behind) {
+        due(calls + " change nothing", behind.equals(ahead) ? 1 : 0, 1);
+        if (!behind.equals(ahead)) {
+            System.out.println("ahead  " + ahead + "\nbehind " + behind);
+        }
+    }
+
     /** To be called last: ends with exit code 1 if an answer was wrong. */
     void end() {
         System.out.println(asked + " answers looked at, " + wrong + " wrong");
@@ -34,10 +49,11 @@ final class Check {
 
     static void feed(SacredHens x, byte[] text) {
         int[] n = numbers(text);
+        int ahead = x.count(8);
         for (int i = 0; i < n.length; i += 5) {
             x.feed(n[i], n[i + 1], n[i + 2], n[i + 3], n[i + 4]);
         }
-        x.end(text.length);
+        x.end(ahead + text.length);
     }
 
     static int tell(SacredHens x, String text) {

@@ -97,9 +97,10 @@ public final class ReferenceTest {
         name = text(days, bills);
         SacredHens x = Check.camp(name);
         Reference r = Reference.read(name);
-        compareTold(x, r);
-        comparePlans(x, r);
-        compareSkies(x, r);
+        // What an object answers behind its 512th call is free, so that one alone is not asked for all.
+        compareTold(Check.camp(name), r);
+        comparePlans(Check.camp(name), r);
+        compareSkies(Check.camp(name), r);
         compareSeen(x, r);
         compareDone(x, r);
         Reference[] images = new Reference[3];
