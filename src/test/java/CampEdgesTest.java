@@ -242,13 +242,6 @@ public final class CampEdgesTest {
         check.due("fault(1) of an empty tape", x.fault(1), -1);
     }
 
-    private static void fault(String text, int kind, int place) {
-        SacredHens x = new SacredHens();
-        check.due("camp() of " + text, Check.tell(x, text), -4);
-        check.due("fault(0) of " + text, x.fault(0), kind);
-        check.due("fault(1) of " + text, x.fault(1), place);
-    }
-
     private static SacredHens reads(String text, int lines) {
         SacredHens x = new SacredHens();
         check.due("camp() of " + text, Check.tell(x, text), lines);
@@ -272,14 +265,14 @@ public final class CampEdgesTest {
                 if (n >= least[part] && n <= most[part]) {
                     check.due("count(" + part + ")", reads(text + ";", 1).count(part), n);
                 } else {
-                    fault(text + ";", 2, place);
+                    check.fault(text + ";", 2, place);
                 }
             }
         }
         // Too long for an int or a long: they are out of bounds still.
         String[] huge = {"2147483648", "4294967297", "18446744073709551617", "1" + "0".repeat(300)};
         for (String n : huge) {
-            fault("camp days " + n + " hunger 0 greed 1 odds 0;", 2, 10);
+            check.fault("camp days " + n + " hunger 0 greed 1 odds 0;", 2, 10);
         }
         check.due("noughts ahead", reads("camp days 0000000000000014 hunger 00 greed 09 odds 010;", 1).count(0), 14);
     }
@@ -296,7 +289,7 @@ public final class CampEdgesTest {
             number("bill of 0 worth ", n, ";", 99);
             if (n < 3) {
                 reads(HEAD + "augur of 1 from 3 to " + (n + 3) + ";", 2);
-                fault(HEAD + "augur of 1 from 3 to " + n + ";", 2, h + 21);
+                check.fault(HEAD + "augur of 1 from 3 to " + n + ";", 2, h + 21);
             }
         }
         String bills = HEAD;
@@ -306,7 +299,7 @@ public final class CampEdgesTest {
                 if (after < told) {
                     check.due("after " + after, reads(text, told + 2).bill(told, 2), after);
                 } else {
-                    fault(text, 2, bills.length() + 24);
+                    check.fault(text, 2, bills.length() + 24);
                 }
             }
             bills = bills + "bill of 1 worth 5;";
@@ -314,15 +307,15 @@ public final class CampEdgesTest {
         // A camp of one day has day 0 alone.
         String one = "camp days 1 hunger 0 greed 1 odds 0;";
         reads(one + "mark 0;augur of 0 from 0 to 0;", 3);
-        fault(one + "mark 1;", 2, one.length() + 5);
-        fault(one + "augur of 0 from 0 to 1;", 2, one.length() + 21);
+        check.fault(one + "mark 1;", 2, one.length() + 5);
+        check.fault(one + "augur of 0 from 0 to 1;", 2, one.length() + 21);
     }
 
     private static void number(String ahead, int n, String behind, int most) {
         if (n <= most) {
             reads(HEAD + ahead + n + behind, 2);
         } else {
-            fault(HEAD + ahead + n + behind, 2, HEAD.length() + ahead.length());
+            check.fault(HEAD + ahead + n + behind, 2, HEAD.length() + ahead.length());
         }
     }
 
@@ -331,19 +324,19 @@ public final class CampEdgesTest {
         int h = HEAD.length();
         reads("camp days6hunger1greed3odds7;mark 1;", 2);
         reads("\n\n camp\ndays\n6 hunger 1\n\n greed 3 odds 7\n;\n", 1);
-        fault("campdays 6", 1, 0);
-        fault("camp days 6 hunger 1 greed 3 odds 7 0;", 1, 36);
+        check.fault("campdays 6", 1, 0);
+        check.fault("camp days 6 hunger 1 greed 3 odds 7 0;", 1, 36);
         // The neighbours of a .. z, of the digits and of the sign, and other blanks.
         String none = "`{/:<ACMZ-+.,_\t\r\f\0\u0080\u00a0\u00ff";
         for (int i = 0; i < none.length(); i++) {
             char sign = none.charAt(i);
-            fault(HEAD + sign, 1, h);
-            fault(HEAD + "mark 1" + sign + ";", 1, h + 6);
-            fault(HEAD + "mark" + sign + "1;", 1, h + 4);
-            fault(HEAD.replace("days", "days" + sign), 1, 9);
+            check.fault(HEAD + sign, 1, h);
+            check.fault(HEAD + "mark 1" + sign + ";", 1, h + 6);
+            check.fault(HEAD + "mark" + sign + "1;", 1, h + 4);
+            check.fault(HEAD.replace("days", "days" + sign), 1, 9);
         }
         for (char sign = 'a'; sign <= 'z'; sign++) {
-            fault(HEAD + "mark" + sign + " 1;", 1, h);
+            check.fault(HEAD + "mark" + sign + " 1;", 1, h);
         }
         lettersOfAWord("", HEAD);
         lettersOfAWord(HEAD, "mark 3;");
@@ -361,10 +354,10 @@ public final class CampEdgesTest {
             if (Character.isLetter(line.charAt(i))) {
                 word = i == 0 || line.charAt(i - 1) == ' ' ? i : word;
                 char other = line.charAt(i) == 'q' ? 'j' : 'q';
-                fault(ahead + line.substring(0, i) + other + line.substring(i + 1), 1, ahead.length() + word);
-                fault(ahead + line.substring(0, i) + other + line.substring(i), 1, ahead.length() + word);
-                fault(ahead + line.substring(0, i) + line.substring(i + 1), 1, ahead.length() + word);
-                fault(ahead + line.substring(0, i) + Character.toUpperCase(line.charAt(i)) + line.substring(i + 1), 1,
+                check.fault(ahead + line.substring(0, i) + other + line.substring(i + 1), 1, ahead.length() + word);
+                check.fault(ahead + line.substring(0, i) + other + line.substring(i), 1, ahead.length() + word);
+                check.fault(ahead + line.substring(0, i) + line.substring(i + 1), 1, ahead.length() + word);
+                check.fault(ahead + line.substring(0, i) + Character.toUpperCase(line.charAt(i)) + line.substring(i + 1), 1,
                     ahead.length() + word);
             }
         }
@@ -380,26 +373,26 @@ public final class CampEdgesTest {
         faultInEach(HEAD, "bill", "of", "1", "worth", "2", ";");
         faultInEach(HEAD + "bill of 0 worth 0;", "bill", "of", "1", "worth", "2", "after", "0", ";");
         // camp behind the first LINE, another word ahead of it.
-        fault(HEAD + " camp days 6", 1, h + 1);
-        fault("mark 3;" + HEAD, 1, 0);
-        fault("augur of 0 from 0 to 0;" + HEAD, 1, 0);
-        fault("bill of 0 worth 0;" + HEAD, 1, 0);
-        fault(";" + HEAD, 1, 0);
+        check.fault(HEAD + " camp days 6", 1, h + 1);
+        check.fault("mark 3;" + HEAD, 1, 0);
+        check.fault("augur of 0 from 0 to 0;" + HEAD, 1, 0);
+        check.fault("bill of 0 worth 0;" + HEAD, 1, 0);
+        check.fault(";" + HEAD, 1, 0);
         // The first by its place, whatever comes behind it.
-        fault(HEAD + "mark 6 ?", 2, h + 5);
-        fault(HEAD + "mark ? 6", 1, h + 5);
-        fault(HEAD + "mark 6;mark 7;", 2, h + 5);
-        fault(HEAD + "bill of 2 worth 100 after 9;", 2, h + 8);
-        fault(HEAD + "mark;mark 6;", 1, h + 4);
+        check.fault(HEAD + "mark 6 ?", 2, h + 5);
+        check.fault(HEAD + "mark ? 6", 1, h + 5);
+        check.fault(HEAD + "mark 6;mark 7;", 2, h + 5);
+        check.fault(HEAD + "bill of 2 worth 100 after 9;", 2, h + 8);
+        check.fault(HEAD + "mark;mark 6;", 1, h + 4);
         // Where a number can't stand it is no matter how great it is; of one place the least.
-        fault("camp 99", 1, 5);
-        fault(HEAD + "mark 1 99;", 1, h + 7);
+        check.fault("camp 99", 1, 5);
+        check.fault(HEAD + "mark 1 99;", 1, h + 7);
         String eight = HEAD + "augur of 0 from 0 to 1;".repeat(8);
-        fault(eight + "mark augur", 1, eight.length() + 5);
+        check.fault(eight + "mark augur", 1, eight.length() + 5);
         // The end's place is how many bytes there are, blanks too.
-        fault("camp", 1, 4);
-        fault("camp \n", 1, 6);
-        fault(HEAD + "bill of 0 worth 3", 1, h + 17);
+        check.fault("camp", 1, 4);
+        check.fault("camp \n", 1, 6);
+        check.fault(HEAD + "bill of 0 worth 3", 1, h + 17);
     }
 
     /** In each place of a line another token can't stand, nor can the end; the tokens ahead of it can. */
@@ -414,11 +407,11 @@ public final class CampEdgesTest {
                     || other.equals("after") && ahead.equals(HEAD) && tokens[0].equals("bill") && tokens[i].equals(";")
                     || other.equals(";") && tokens[i].equals("after");
                 if (!canStand) {
-                    fault(text + " " + other, 1, text.length() + 1);
+                    check.fault(text + " " + other, 1, text.length() + 1);
                 }
             }
             if (i > 0) {
-                fault(text, 1, text.length());
+                check.fault(text, 1, text.length());
             }
             text = text + " " + tokens[i];
         }
@@ -435,15 +428,15 @@ public final class CampEdgesTest {
         bills = bills + "bill of 0 worth 44 after 6;";
         check.due("augur 7", reads(augurs, 9).augur(7, 1), 2);
         check.due("bill 7", reads(bills, 9).bill(7, 1), 44);
-        fault(augurs + "\naugur of 0 from 2 to 3;", 3, augurs.length() + 1);
-        fault(bills + "\nbill of 0 worth 44;", 3, bills.length() + 1);
-        fault(augurs + "augur", 3, augurs.length());
-        fault(bills + "bill of 9", 3, bills.length());
+        check.fault(augurs + "\naugur of 0 from 2 to 3;", 3, augurs.length() + 1);
+        check.fault(bills + "\nbill of 0 worth 44;", 3, bills.length() + 1);
+        check.fault(augurs + "augur", 3, augurs.length());
+        check.fault(bills + "bill of 9", 3, bills.length());
         String both = bills + augurs.substring(HEAD.length());
         reads(both + "mark 5;", 18);
-        fault(both + "augur of 0 from 0 to 0;", 3, both.length());
-        fault(both + "bill of 0 worth 0;", 3, both.length());
-        fault(both + "mark 6;bill", 2, both.length() + 5);
+        check.fault(both + "augur of 0 from 0 to 0;", 3, both.length());
+        check.fault(both + "bill of 0 worth 0;", 3, both.length());
+        check.fault(both + "mark 6;bill", 2, both.length() + 5);
     }
 
     /** 6, 7: what 0 .. 2; NONE where a BILL is after none; -2: there are none such. */

@@ -111,62 +111,55 @@ public final class CampTest {
         check.due("and no place", x.fault(1), -1);
     }
 
-    private static void fault(String text, int kind, int place) {
-        SacredHens x = new SacredHens();
-        check.due("camp() of " + text, Check.tell(x, text), -4);
-        check.due("fault(0) of " + text, x.fault(0), kind);
-        check.due("fault(1) of " + text, x.fault(1), place);
-    }
-
     private static void faults() {
         int h = HEAD.length();
-        fault("camp", 1, 4);
-        fault("camp  ", 1, 6);
-        fault(";", 1, 0);
-        fault("mark 3;", 1, 0);
-        fault("camps days 3", 1, 0);
-        fault("Camp days 3", 1, 0);
-        fault("camp days hunger", 1, 10);
-        fault("camp days 3 hunger 3 greed 3 odds 3 ", 1, 36);
-        fault("camp days 3 greed 3", 1, 12);
-        fault("camp days 3x", 1, 11);
-        fault("camp days -3", 1, 10);
-        fault("camp\tdays", 1, 4);
-        fault(HEAD + ";", 1, h);
-        fault(HEAD + HEAD, 1, h);
-        fault(HEAD + " mark", 1, h + 5);
-        fault(HEAD + "mark 1 2;", 1, h + 7);
-        fault(HEAD + "mark 1", 1, h + 6);
-        fault(HEAD + "marks 1;", 1, h);
-        fault(HEAD + "mark1mark", 1, h + 5);
-        fault(HEAD + "markz 1;", 1, h);
-        fault(HEAD + "amark 1;", 1, h);
-        fault(HEAD + "7;", 1, h);
-        fault(HEAD + "augur from 1 to 2;", 1, h + 6);
-        fault(HEAD + "bill of 0 worth 5 after;", 1, h + 23);
-        fault(HEAD + "bill of 0 worth 5 behind 0;", 1, h + 18);
-        fault(HEAD + "bill of 0 worth 5, after 0;", 1, h + 17);
-        fault(HEAD + "bill of 2 worth 500 ?", 2, h + 8);
+        check.fault("camp", 1, 4);
+        check.fault("camp  ", 1, 6);
+        check.fault(";", 1, 0);
+        check.fault("mark 3;", 1, 0);
+        check.fault("camps days 3", 1, 0);
+        check.fault("Camp days 3", 1, 0);
+        check.fault("camp days hunger", 1, 10);
+        check.fault("camp days 3 hunger 3 greed 3 odds 3 ", 1, 36);
+        check.fault("camp days 3 greed 3", 1, 12);
+        check.fault("camp days 3x", 1, 11);
+        check.fault("camp days -3", 1, 10);
+        check.fault("camp\tdays", 1, 4);
+        check.fault(HEAD + ";", 1, h);
+        check.fault(HEAD + HEAD, 1, h);
+        check.fault(HEAD + " mark", 1, h + 5);
+        check.fault(HEAD + "mark 1 2;", 1, h + 7);
+        check.fault(HEAD + "mark 1", 1, h + 6);
+        check.fault(HEAD + "marks 1;", 1, h);
+        check.fault(HEAD + "mark1mark", 1, h + 5);
+        check.fault(HEAD + "markz 1;", 1, h);
+        check.fault(HEAD + "amark 1;", 1, h);
+        check.fault(HEAD + "7;", 1, h);
+        check.fault(HEAD + "augur from 1 to 2;", 1, h + 6);
+        check.fault(HEAD + "bill of 0 worth 5 after;", 1, h + 23);
+        check.fault(HEAD + "bill of 0 worth 5 behind 0;", 1, h + 18);
+        check.fault(HEAD + "bill of 0 worth 5, after 0;", 1, h + 17);
+        check.fault(HEAD + "bill of 2 worth 500 ?", 2, h + 8);
     }
 
     private static void bounds() {
         int h = HEAD.length();
-        fault("camp days 0 hunger 0 greed 1 odds 0;", 2, 10);
-        fault("camp days 15 hunger 0 greed 1 odds 0;", 2, 10);
-        fault("camp days 4294967297 hunger 0 greed 1 odds 0;", 2, 10);
-        fault("camp days 99999999999999999999999999 hunger", 2, 10);
-        fault("camp days 1 hunger 10 greed 1 odds 0;", 2, 19);
-        fault("camp days 1 hunger 0 greed 0 odds 0;", 2, 27);
-        fault("camp days 1 hunger 0 greed 10 odds 0;", 2, 27);
-        fault("camp days 1 hunger 0 greed 1 odds 11;", 2, 34);
-        fault(HEAD + "mark 10;", 2, h + 5);
-        fault(HEAD + "augur of 2 from 0 to 0;", 2, h + 9);
-        fault(HEAD + "augur of 1 from 10 to 10;", 2, h + 16);
-        fault(HEAD + "augur of 1 from 4 to 3;", 2, h + 21);
-        fault(HEAD + "augur of 1 from 4 to 10;", 2, h + 21);
-        fault(HEAD + "bill of 0 worth 100;", 2, h + 16);
-        fault(HEAD + "bill of 0 worth 1 after 0;", 2, h + 24);
-        fault(HEAD + "bill of 0 worth 1;bill of 0 worth 1 after 1;", 2, h + 42);
+        check.fault("camp days 0 hunger 0 greed 1 odds 0;", 2, 10);
+        check.fault("camp days 15 hunger 0 greed 1 odds 0;", 2, 10);
+        check.fault("camp days 4294967297 hunger 0 greed 1 odds 0;", 2, 10);
+        check.fault("camp days 99999999999999999999999999 hunger", 2, 10);
+        check.fault("camp days 1 hunger 10 greed 1 odds 0;", 2, 19);
+        check.fault("camp days 1 hunger 0 greed 0 odds 0;", 2, 27);
+        check.fault("camp days 1 hunger 0 greed 10 odds 0;", 2, 27);
+        check.fault("camp days 1 hunger 0 greed 1 odds 11;", 2, 34);
+        check.fault(HEAD + "mark 10;", 2, h + 5);
+        check.fault(HEAD + "augur of 2 from 0 to 0;", 2, h + 9);
+        check.fault(HEAD + "augur of 1 from 10 to 10;", 2, h + 16);
+        check.fault(HEAD + "augur of 1 from 4 to 3;", 2, h + 21);
+        check.fault(HEAD + "augur of 1 from 4 to 10;", 2, h + 21);
+        check.fault(HEAD + "bill of 0 worth 100;", 2, h + 16);
+        check.fault(HEAD + "bill of 0 worth 1 after 0;", 2, h + 24);
+        check.fault(HEAD + "bill of 0 worth 1;bill of 0 worth 1 after 1;", 2, h + 42);
         check.due("the widest numbers", Check.tell(new SacredHens(),
             "camp days 14 hunger 9 greed 9 odds 10;mark 13;augur of 1 from 13 to 13;bill of 1 worth 99;bill of 0 worth 0 after 0;"), 5);
         check.due("the least numbers", Check.tell(new SacredHens(),
@@ -178,9 +171,9 @@ public final class CampTest {
         String bills = HEAD + "bill of 0 worth 1;".repeat(8);
         check.due("8 augurs", Check.tell(new SacredHens(), augurs), 9);
         check.due("8 bills", Check.tell(new SacredHens(), bills), 9);
-        fault(augurs + " augur of 5", 3, augurs.length() + 1);
-        fault(bills + "bill", 3, bills.length());
-        fault(bills + "bills", 1, bills.length());
+        check.fault(augurs + " augur of 5", 3, augurs.length() + 1);
+        check.fault(bills + "bill", 3, bills.length());
+        check.fault(bills + "bills", 1, bills.length());
         check.due("many marks", Check.tell(new SacredHens(), HEAD + "mark 3;".repeat(100)), 101);
     }
 

@@ -22,6 +22,14 @@ final class Check {
         }
     }
 
+    /** A text told to a new object has this fault at this place. */
+    void fault(String text, int kind, int place) {
+        SacredHens x = new SacredHens();
+        due("camp() of " + text, tell(x, text), -4);
+        due("fault(0) of " + text, x.fault(0), kind);
+        due("fault(1) of " + text, x.fault(1), place);
+    }
+
     /** What was seen ahead of calls that change nothing is seen behind them too. */
     void same(String calls, String ahead, String behind) {
         due(calls + " change nothing", behind.equals(ahead) ? 1 : 0, 1);

@@ -46,7 +46,7 @@ public final class DoneEdgesTest {
         check.end();
     }
 
-    /** -2: no such DAY, BILL, SIDE, what; nothing happens. */
+    /** 13, 14, 18 to 22, 48, 50, 51, 64 to 66, 69 to 71: -2: no such DAY, BILL, SIDE, what; nothing happens. */
     private static void noneSuch() {
         SacredHens x = Check.camp(CAMP);
         x.asks(0, 1);

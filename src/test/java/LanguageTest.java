@@ -17,6 +17,8 @@ public final class LanguageTest {
     public static void main(String[] args) throws Exception {
         words();
         face();
+        sizes();
+        signsOfTexts();
         objectsAreMadeByConstructors();
         anyArguments();
         check.end();
@@ -64,6 +66,41 @@ public final class LanguageTest {
         }
         check.due("public fields", SacredHens.class.getFields().length, 1);
         check.due("public constructors", SacredHens.class.getDeclaredConstructors().length, 1);
+    }
+
+    /** Rule 11: seven parameters, some sixty lines a method, some twelve classes, some twenty fields a class. */
+    private static void sizes() throws IOException {
+        Class<?>[] inside = SacredHens.class.getDeclaredClasses();
+        check.due("at most twelve classes", inside.length + 1 <= 12 ? 1 : 0, 1);
+        Class<?>[] all = java.util.Arrays.copyOf(inside, inside.length + 1);
+        all[inside.length] = SacredHens.class;
+        for (Class<?> one : all) {
+            long fields = java.util.Arrays.stream(one.getDeclaredFields()).filter(f -> !Modifier.isStatic(f.getModifiers())).count();
+            check.due(one + " has at most twenty fields", fields <= 20 ? 1 : 0, 1);
+            for (java.lang.reflect.Field field : one.getDeclaredFields()) {
+                boolean isFixed = !Modifier.isStatic(field.getModifiers()) || Modifier.isFinal(field.getModifiers());
+                check.due(field + " is final, if it is static", isFixed ? 1 : 0, 1);
+            }
+            for (Method method : one.getDeclaredMethods()) {
+                check.due(method + " has at most seven parameters", method.getParameterCount() <= 7 ? 1 : 0, 1);
+            }
+        }
+        Matcher method = Pattern.compile("(?m)^( +)(?:\\w+ )*[\\w\\[\\]]+ ?\\w*\\([^;{}]*\\) \\{\\n((?s:.*?))^\\1\\}").matcher(source());
+        int found = 0;
+        while (method.find()) {
+            found++;
+            check.due("sixty lines at most from " + method.group(0).split("\n")[0], method.group(2).lines().count() <= 60 ? 1 : 0, 1);
+        }
+        check.due("the methods were found", found > 100 ? 1 : 0, 1);
+    }
+
+    /** Rules 3 and 4: constants of text hold signs 1 to 127 alone. */
+    private static void signsOfTexts() throws IOException {
+        for (char sign : Files.readString(Path.of("src/main/java/SacredHens.java")).toCharArray()) {
+            if (sign > 127 || sign < 32 && sign != '\n') {
+                check.due("sign " + (int) sign + " in the source", 1, 0);
+            }
+        }
     }
 
     /** Rule 12 is kept most plainly where no call makes anything. */

@@ -49,7 +49,7 @@ public final class PlanEdgesTest {
         check.same("calls for none such", ahead, State.of(x));
     }
 
-    /** A SIDE without BILLS: one PLAN, of no worth. */
+    /** 23 to 26, 29, 32, 35 to 38: a SIDE without BILLS has one PLAN, of no worth. */
     private static void noBills() {
         SacredHens x = Check.camp(EVERY_DAY + "mark 3;augur of 0 from 5 to 6;bill of 1 worth 9;");
         check.all("no worth, no bills", 0, x.plan(0), x.many(0), x.spoilt(0));
@@ -156,7 +156,7 @@ public final class PlanEdgesTest {
         plannedRow("as late as hunger lets", "camp days 5 hunger 0 greed 2 odds 5;bill of 0 worth 3;bill of 0 worth 3;", 0, -1, -1, 0, -1, 1);
     }
 
-    /** What was answered of another camp, side or day leaves nothing behind. */
+    /** 23 to 26, 32: what was answered of another camp, side or day leaves nothing behind. */
     private static void ofThisCampAlone() {
         SacredHens x = Check.camp(EVERY_DAY + "bill of 0 worth 99;bill of 1 worth 98;".repeat(4));
         check.due("together", x.together(), 788);
@@ -173,6 +173,19 @@ public final class PlanEdgesTest {
         check.due("plan", x.plan(0), 6);
         check.due("ways", x.ways(0), 20);
         check.due("ways of the other", x.ways(1), 10);
+        behindAnother("camp days 2 hunger 5 greed 1 odds 5;bill of 0 worth 2;bill of 0 worth 2;",
+            "camp days 5 hunger 0 greed 2 odds 5;bill of 0 worth 2;bill of 0 worth 2;bill of 0 worth 3;", -1, -1, 0, -1, 2);
+        behindAnother("camp days 5 hunger 8 greed 2 odds 5;bill of 0 worth 3;bill of 0 worth 1;",
+            "camp days 3 hunger 3 greed 1 odds 5;mark 0;bill of 0 worth 2;bill of 0 worth 3;bill of 0 worth 3 after 0;", -1, 0, 1);
+    }
+
+    private static void behindAnother(String ahead, String text, int... row) {
+        SacredHens x = Check.camp(ahead);
+        check.due("plan of the one ahead", x.plan(0), 4);
+        Check.tell(x, text);
+        for (int day = row.length - 1; day >= 0; day--) {
+            check.due("planned(0, " + day + ") behind another camp", x.planned(0, day), row[day]);
+        }
     }
 
     private static void plannedRow(String name, String text, int side, int... row) {

@@ -26,7 +26,7 @@ public final class SkyEdgesTest {
         return "augur of " + side + " from " + from + " to " + to + ";";
     }
 
-    /** -2: there is no such SIDE, k; nothing happens. */
+    /** 39 to 46: -2: there is no such SIDE, k; nothing happens. */
     private static void noneSuch() {
         SacredHens x = Check.camp(HEAD + "mark 3;" + augur(0, 0, 5) + augur(1, 4, 13));
         String ahead = State.of(x);
@@ -38,7 +38,7 @@ public final class SkyEdgesTest {
         check.same("calls for none such", ahead, State.of(x));
     }
 
-    /** Without AUGURS: 0, NONE for tenure(), all days clear. */
+    /** 39 to 47: without AUGURS: 0, NONE for tenure(), all days clear. */
     private static void noAugurs() {
         SacredHens x = Check.camp(HEAD + augur(1, 0, 13));
         check.all("nothing is watched", 0, x.college(0), x.chosen(0), x.hold(0, 0), x.hold(0, 1), x.hold(0, 8), x.idle(0), x.lone(0), x.both(),
