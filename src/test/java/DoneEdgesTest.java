@@ -101,6 +101,8 @@ public final class DoneEdgesTest {
         SacredHens hungry = Check.camp("camp days 3 hunger 0 greed 2 odds 5;bill of 1 worth 0;");
         check.due("open from the day on which they eat", hungry.open(1), Check.bits(2));
         best("from that day, of no worth", hungry, -1, -1, 0);
+        SacredHens near = Check.camp("camp days 1 hunger 5 greed 2 odds 5;bill of 1 worth 7;bill of 0 worth 8;bill of 1 worth 8;bill of 0 worth 7;");
+        best("worth one more, of two such the first", near, 1);
         SacredHens all = Check.camp(EIGHT);
         check.due("open on all days", all.open(0), (1 << 14) - 1);
         for (int bill = 0; bill < 8; bill++) {

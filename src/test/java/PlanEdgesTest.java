@@ -153,6 +153,7 @@ public final class PlanEdgesTest {
         plannedRow("one of no worth ahead of another", "camp days 3 hunger 9 greed 1 odds 5;bill of 0 worth 0;bill of 0 worth 7 after 0;", 0, -1, 0, 1);
         plannedRow("no day but one", "camp days 3 hunger 9 greed 1 odds 5;mark 1;mark 2;bill of 0 worth 3;bill of 1 worth 7;", 0, 0, -1, -1);
         plannedRow("a side of its own", "camp days 3 hunger 9 greed 1 odds 5;mark 1;mark 2;bill of 0 worth 3;bill of 1 worth 7;", 1, 1, -1, -1);
+        plannedRow("not one that is after another, though it is worth as much", "camp days 1 hunger 9 greed 1 odds 5;bill of 0 worth 0;bill of 0 worth 9 after 0;bill of 0 worth 9;", 0, 2);
         plannedRow("as late as hunger lets", "camp days 5 hunger 0 greed 2 odds 5;bill of 0 worth 3;bill of 0 worth 3;", 0, -1, -1, 0, -1, 1);
     }
 
@@ -343,6 +344,9 @@ public final class PlanEdgesTest {
         only.rate(0, 0);
         check.due("nothing is less than nothing", only.spoil(0), -1);
         check.due("as now", only.spoilt(0), 0);
+        SacredHens near = Check.camp("camp days 2 hunger 9 greed 1 odds 5;bill of 0 worth 1;bill of 0 worth 9;");
+        check.due("less by one alone", near.spoil(0), 0);
+        check.due("one less", near.spoilt(0), 9);
         SacredHens end = Check.camp("camp days 14 hunger 0 greed 9 odds 5;mark 9;mark 10;mark 11;mark 12;bill of 0 worth 1;");
         check.due("the last day", end.spoil(0), 13);
     }
@@ -361,6 +365,11 @@ public final class PlanEdgesTest {
         SacredHens own = Check.camp(head + "augur of 0 from 0 to 5;");
         check.due("its own never stopped it", own.bribe(0), -1);
         check.due("side 1 has no bill", own.bribe(1), -1);
+        String near = "camp days 3 hunger 9 greed 1 odds 5;augur of 1 from 0 to 0;augur of 1 from 1 to 2;bill of 0 worth 5;";
+        check.due("either makes it 5", Check.camp(near).bribe(0), 0);
+        check.due("the other one more than that", Check.camp(near + "bill of 0 worth 1;").bribe(0), 1);
+        check.due("one more than now", Check.camp("camp days 2 hunger 9 greed 1 odds 5;augur of 1 from 1 to 1;bill of 0 worth 9;bill of 0 worth 1;").bribe(0), 0);
+        check.due("no more than now", Check.camp("camp days 2 hunger 9 greed 1 odds 5;augur of 1 from 1 to 1;bill of 0 worth 9;bill of 0 worth 0;").bribe(0), -1);
         SacredHens last = Check.camp(head + "augur of 0 from 0 to 5;".repeat(7) + "augur of 1 from 0 to 5;");
         check.due("augur 7", last.bribe(0), 7);
     }
@@ -377,6 +386,8 @@ public final class PlanEdgesTest {
         check.due("days enough", Check.camp("camp days 4 hunger 9 greed 1 odds 5;mark 2;" + bills).unmark(0), -1);
         check.due("no marks", Check.camp("camp days 2 hunger 9 greed 1 odds 5;" + bills).unmark(0), -1);
         check.due("of no use so near", Check.camp("camp days 3 hunger 9 greed 2 odds 5;mark 1;" + bills).unmark(0), -1);
+        check.due("of use for one more alone", Check.camp("camp days 2 hunger 9 greed 1 odds 5;mark 1;bill of 0 worth 9;bill of 0 worth 1;").unmark(0), 1);
+        check.due("of use for no more", Check.camp("camp days 2 hunger 9 greed 1 odds 5;mark 1;bill of 0 worth 9;bill of 0 worth 0;").unmark(0), -1);
         check.due("a day that is of use, not the first marked", Check.camp("camp days 5 hunger 9 greed 2 odds 5;mark 1;mark 4;" + bills).unmark(0), 4);
     }
 }

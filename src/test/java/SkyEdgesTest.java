@@ -117,6 +117,7 @@ public final class SkyEdgesTest {
         SacredHens x = Check.camp(HEAD + augur(1, 0, 9) + augur(0, 3, 3) + augur(0, 8, 10) + augur(0, 0, 2) + augur(1, 0, 13) + augur(0, 5, 6));
         check.due("the first of two for three days", x.tenure(0), 2);
         check.due("the one for most", x.tenure(1), 4);
+        check.due("one day more than the one ahead", Check.camp(HEAD + augur(0, 3, 5) + augur(0, 10, 13) + augur(0, 1, 3)).tenure(0), 1);
         check.due("for one day", Check.camp(HEAD + augur(0, 13, 13)).tenure(0), 0);
         check.due("augur 7", Check.camp(HEAD + augur(1, 0, 13).repeat(7) + augur(0, 0, 0)).tenure(0), 7);
     }

@@ -327,6 +327,9 @@ public final class SlotEdgesTest {
         SacredHens three = Check.camp("camp days 3 hunger 0 greed 9 odds 5;");
         three.row(0, 0, 0);
         asks("4, 6 and 6 of 40 eat: the first of two", three, 1, 34);
+        SacredHens near = Check.camp("camp days 3 hunger 0 greed 9 odds 5;");
+        Check.fill(near, 0, 0, 0, 1);
+        asks("3 of 4 eat on 1, fed on 0 they do not; 2 of 4 on 2: one fewer", near, 2, 2);
         SacredHens last = Check.camp("camp days 14 hunger 0 greed 9 odds 5;");
         Check.fill(last, 0, 0, 0, 1, 4, 0, 11, 0, 12, 1);
         check.due("fed on 3 alone", last.fits(0), 1);
