@@ -1610,7 +1610,7 @@ public final class SacredHens {
         int billInFirstPlan(int wanted) {
             int set = 0;
             int day = from;
-            while (day < wanted) {
+            for (int step = 0; step < MAX_DAYS && day < wanted; step++) {
                 int bill = firstBill(day, set);
                 if (bill == NONE) {
                     day++;
